@@ -330,7 +330,6 @@ public final class KindSayings {
             worldThings[sort] = 0;
         }
         heapTable.shape(sortCount(), mostThings);
-        heapTable.stale = SETS - 1;
     }
 
     private Saying sayingAt(int i) {
@@ -835,6 +834,7 @@ public final class KindSayings {
             return facts;
         }
 
+        /** Which worlds there are; nothing is known then of which sayings hold in them. */
         void shape(int sortCount, int mostThings) {
             sorts = sortCount;
             most = mostThings;

@@ -21,11 +21,11 @@ public final class FaultsTest {
         // words
         "^foo A:B", "^alll A:B", "^al A:B", "^notall A:B", "^alls A:B", "^leas 2 A:B", "^a A:B", "^nota A:B", "not ^not all A:B",
         "all ^all A:B", "all A ^all:B", "all A:B ^all", "not ^noti A:B", "^abcdefghijklmnopqrstuvwxyz", "^zzzzzzzzall A:B",
-        "^someall A:B", "not ^AB:C", "not^5 A:B", "all ^not A:B", "^evenly A:B", "not no^", "all A:^x", "all A&^most:B",
+        "^someall A:B", "not ^AB:C", "not^5 A:B", "all ^not A:B", "^evenly A:B", "^allz A:B", "^alla A:B", "not ^nozzz A:B", "not no^", "all A:^x", "all A&^most:B",
         // numbers
         "all ^2 A:B", "least ^A:B", "least ^7 A:B", "least ^10 A:B", "least ^06 A:B", "least ^00 A:B", "least 2 ^3 A:B",
         "just ^99999999999999999999999999 A:B", "just ^4294967296 A:B", "just ^01 A:B", "most ^1 A:B", "least 2 A:^2", "^2 A:B",
-        "all A:B ^2", "least ^: A:B", "least ^18446744073709551618 A:B",
+        "all A:B ^2", "least ^: A:B", "least ^18446744073709551618 A:B", "least ^19 A:B", "least ^29876543210 A:B", "just ^60 A:B",
         // kinds
         "all ^D:A", "all A:^D", "all ^E:A", "all A:^Z", "all A ^B:C", "all A:B ^C", "^A:B", "^D", "all A^D", "all A:B^D",
         "all A&^D:B", "all !^D:B", "all (^D):B",

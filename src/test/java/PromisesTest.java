@@ -481,6 +481,24 @@ public final class PromisesTest {
         }
     }
 
+    /** Worlds in which none of all sayings hold are a heap too. */
+    private static void noneHold() {
+        KindSayings x = new KindSayings();
+        for (int i = 0; i < 10; i++) {
+            due("read", Check.tell(x, i, "some A:A"), 1);
+        }
+        // Of 495 worlds 70 have no A; sorts that are not A are four of eight.
+        for (int turn = 0; turn < 3; turn++) {
+            due("all worlds", x.can(0), 495);
+            due("all but those without A", x.can(1), 425);
+            due("two heaps", x.heaps(0), 2);
+            due("the empty world is first", x.least(0, -1), 0);
+            due("and against it", x.against(0, 9, -1), 0);
+            due("clash of none", x.clash(1023, 0), NONE);
+            due("read", Check.tell(x, turn, "not no A:A"), 1);
+        }
+    }
+
     private static void twin() {
         KindSayings x = told("some A:B", "no A:B", "not no B:A", "least 1 A&B:A|C", "all A:B", "even A:A&B", "least 5 A:A",
             "not all C:C", "most A:B", "even A:A");
@@ -690,6 +708,7 @@ public final class PromisesTest {
         clash();
         ask();
         heaps();
+        noneHold();
         twin();
         moods();
         round();
