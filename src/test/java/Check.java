@@ -2,12 +2,23 @@
 final class Check {
     private int wrong = 0;
     private int seen = 0;
+    private String sentence = "";
+
+    /** The document's words that are looked at from here on; each answer that is not due is told with them. */
+    void sentence(String words) {
+        sentence = words;
+        Quotes.add(words);
+    }
 
     void due(String call, long got, long want) {
+        due(call, String.valueOf(got), String.valueOf(want));
+    }
+
+    void due(String call, String got, String want) {
         seen++;
-        if (got != want) {
+        if (!got.equals(want)) {
             wrong++;
-            System.out.println(call + " answered " + got + ", due is " + want);
+            System.out.println(call + " answered " + got + ", due is " + want + (sentence.isEmpty() ? "" : " by: " + sentence));
         }
     }
 

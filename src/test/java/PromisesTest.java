@@ -10,18 +10,6 @@ public final class PromisesTest {
         CHECK.due(call, got, want);
     }
 
-    private static KindSayings told(String... texts) {
-        KindSayings x = new KindSayings();
-        tell(x, texts);
-        return x;
-    }
-
-    private static void tell(KindSayings x, String... texts) {
-        for (int i = 0; i < texts.length; i++) {
-            due("read of '" + texts[i] + "'", Check.tell(x, i, texts[i]), 1);
-        }
-    }
-
     /** All that can be seen of an object, in one number. */
     private static long seen(KindSayings x) {
         long all = x.worlds();
@@ -40,17 +28,6 @@ public final class PromisesTest {
             }
         }
         return all;
-    }
-
-    /** An object in whose every part there is something to lose. */
-    private static KindSayings full() {
-        KindSayings x = told("not all A:B", "least 2 A|B:!C", "some C:A", "even A:B&C", "no (A):B");
-        x.most(3);
-        x.moods(300);
-        x.put(3, 2);
-        x.put(7, 1);
-        Check.type(x, "all B:");
-        return x;
     }
 
     private static void newObject() {
@@ -77,7 +54,7 @@ public final class PromisesTest {
     }
 
     private static void kinds() {
-        KindSayings x = full();
+        KindSayings x = Made.full();
         due("kinds(4)", x.kinds(4), 3);
         due("N stays", x.count(1), 3);
         due("the world is empty", x.count(2), 0);
@@ -87,7 +64,7 @@ public final class PromisesTest {
         due("moods stay", x.moods(300), 300);
         due("worlds", x.worlds(), 969);
         due("put(15, 1)", x.put(15, 1), 0);
-        tell(x, "some D:A");
+        Made.tell(x, "some D:A");
         due("kinds(4) again", x.kinds(4), 4);
         due("told again: word", x.about(0, 0), 0);
         due("told again: world", x.count(2), 0);
@@ -103,7 +80,7 @@ public final class PromisesTest {
     }
 
     private static void most() {
-        KindSayings x = full();
+        KindSayings x = Made.full();
         due("most(6)", x.most(6), 3);
         due("most(1)", x.most(1), 6);
         due("the world stays", x.count(2), 3);
@@ -113,7 +90,7 @@ public final class PromisesTest {
             due("most(" + v + ")", x.most(v), BAD);
         }
         due("most refused: nothing changes", seen(x), before);
-        KindSayings y = told("least 3 A:A", "least 4 A:A");
+        KindSayings y = Made.told("least 3 A:A", "least 4 A:A");
         due("within 4", y.can(2), 35);
         y.most(3);
         due("within 3", y.can(1), 20);
@@ -159,7 +136,7 @@ public final class PromisesTest {
     }
 
     private static void holds() {
-        KindSayings x = told("all A:B", "some A:B", "no A:B", "most A:B", "least 2 A:B", "just 2 A:B", "more A:B",
+        KindSayings x = Made.told("all A:B", "some A:B", "no A:B", "most A:B", "least 2 A:B", "just 2 A:B", "more A:B",
             "even A:B", "not most A:B", "least 0 A:B");
         int[][] worlds = {{0, 0, 0, 0}, {0, 2, 0, 2}, {0, 1, 1, 2}, {0, 0, 3, 3}, {2, 1, 0, 0}, {0, 3, 0, 2}, {0, 0, 2, 0}};
         for (int w = 0; w < worlds.length; w++) {
@@ -184,7 +161,7 @@ public final class PromisesTest {
     }
 
     private static void size() {
-        KindSayings x = told("all A:B", "some !A:B|C", "even (A|B)&C:!(A&B)");
+        KindSayings x = Made.told("all A:B", "some !A:B|C", "even (A|B)&C:!(A&B)");
         x.put(0, 1);
         x.put(1, 2);
         x.put(2, 1);
@@ -240,7 +217,7 @@ public final class PromisesTest {
     }
 
     private static void read() {
-        KindSayings x = full();
+        KindSayings x = Made.full();
         long before = seen(x);
         for (int i : NO_SAYINGS) {
             due("read(" + i + ")", x.read(i), BAD);
@@ -292,17 +269,17 @@ public final class PromisesTest {
             "A|!A", "!(A|!(B&!C))", "((A))", "!A|!B|!C", "A&B&C"};
         int[] due = {0xAA, 0xCC, 0xF0, 0x55, 0x88, 0xEE, 0xEA, 0xF8, 0xE0, 0x44, 0x77, 0xAA, 0, 255, 0x04, 0xAA, 0x7F, 0x80};
         for (int i = 0; i < texts.length; i++) {
-            KindSayings x = told("even " + texts[i] + ":" + texts[i]);
+            KindSayings x = Made.told("even " + texts[i] + ":" + texts[i]);
             due("X " + texts[i], x.about(0, 1), due[i]);
             due("Y " + texts[i], x.about(0, 2), due[i]);
         }
         KindSayings x = new KindSayings();
         x.kinds(1);
-        tell(x, "all !A:A|!A");
+        Made.tell(x, "all !A:A|!A");
         due("X of one kind", x.about(0, 1), 1);
         due("Y of one kind", x.about(0, 2), 3);
         x.kinds(4);
-        tell(x, "all !D:A|!A");
+        Made.tell(x, "all !D:A|!A");
         due("X of four kinds", x.about(0, 1), 0xFF);
         due("Y of four kinds", x.about(0, 2), 0xFFFF);
     }
@@ -311,7 +288,7 @@ public final class PromisesTest {
         KindSayings x = new KindSayings();
         x.kinds(1);
         x.most(2);
-        tell(x, "some A:A", "just 1 A:A", "more A:!A", "not some A:A");
+        Made.tell(x, "some A:A", "just 1 A:A", "more A:!A", "not some A:A");
         due("can(0)", x.can(0), 6);
         due("can(1)", x.can(1), 3);
         due("can(2)", x.can(2), 2);
@@ -326,7 +303,7 @@ public final class PromisesTest {
     }
 
     private static void least() {
-        KindSayings x = told("some A:B", "not all A:B", "least 2 C:C", "some !A:!B", "no C:A&B", "all C:B");
+        KindSayings x = Made.told("some A:B", "not all A:B", "least 2 C:C", "some !A:!B", "no C:A&B", "all C:B");
         int[] set = {0, 1, 3, 7, 15, 31, 63};
         // The worlds by hand, as the sorts of their things: of as many things the one with more of the least sort.
         int[][] due = {{}, {3}, {1, 3}, {3 + 2, 7}, {0, 5, 7}, {3, 4, 5}, null};
@@ -341,7 +318,7 @@ public final class PromisesTest {
                 due("least(" + set[w] + ", " + sort + ")", x.least(set[w], sort), many);
             }
         }
-        tell(x, "no A:B", "some A:B");
+        Made.tell(x, "no A:B", "some A:B");
         due("no world", x.least(3, -1), NONE);
         due("no world, a sort", x.least(3, 7), NONE);
         for (int no : NO_SETS) {
@@ -354,7 +331,7 @@ public final class PromisesTest {
     }
 
     private static void follows() {
-        KindSayings x = told("all A:B", "all B:C", "all A:C", "some A:C", "no A:A", "least 4 B:B", "least 2 C:B");
+        KindSayings x = Made.told("all A:B", "all B:C", "all A:C", "some A:C", "no A:A", "least 4 B:B", "least 2 C:B");
         due("by a chain", x.follows(3, 2), 1);
         due("not the other way", x.follows(5, 1), 0);
         due("of no things not", x.follows(3, 3), 0);
@@ -364,7 +341,7 @@ public final class PromisesTest {
         due("what does not always", x.follows(0, 0), 0);
         due("what cannot be: all", x.follows(24, 5), 1);
         due("within N alone", x.follows(34, 6), 1);
-        tell(x, "least 3 A:A", "least 2 B:B", "some A:B");
+        Made.tell(x, "least 3 A:A", "least 2 B:B", "some A:B");
         due("three and two of four meet", x.follows(3, 2), 1);
         x.most(5);
         due("of five they need not", x.follows(3, 2), 0);
@@ -377,7 +354,7 @@ public final class PromisesTest {
     }
 
     private static void against() {
-        KindSayings x = told("some A:B", "all A:B", "no A:C", "some C:C");
+        KindSayings x = Made.told("some A:B", "all A:B", "no A:C", "some C:C");
         due("against(1, 1, -1)", x.against(1, 1, -1), 2);
         due("of sort 1", x.against(1, 1, 1), 1);
         due("of sort 3", x.against(1, 1, 3), 1);
@@ -401,7 +378,7 @@ public final class PromisesTest {
     }
 
     private static void unsaid() {
-        KindSayings x = told("all A:B", "all B:C", "all A:C", "some A:B", "some B:A", "least 0 A:A");
+        KindSayings x = Made.told("all A:B", "all B:C", "all A:C", "some A:B", "some B:A", "least 0 A:A");
         due("nothing said", x.unsaid(0), 0);
         due("one", x.unsaid(1), 0);
         due("what always holds", x.unsaid(32), 32);
@@ -419,7 +396,7 @@ public final class PromisesTest {
     }
 
     private static void clash() {
-        KindSayings x = told("all A:B", "all B:C", "some A:!C", "no A:B", "some A:B", "least 5 A:A", "not least 0 A:A");
+        KindSayings x = Made.told("all A:B", "all B:C", "some A:!C", "no A:B", "some A:B", "least 5 A:A", "not least 0 A:A");
         due("three together", x.clash(7, 0), 3);
         due("the three", x.clash(7, 1), 7);
         due("two are fewer", x.clash(31, 0), 2);
@@ -434,7 +411,7 @@ public final class PromisesTest {
         due("no set", x.clash(0, 1), NONE);
         x.most(5);
         due("within five", x.clash(32, 0), NONE);
-        KindSayings y = told("some A:A", "some B:B", "some C:C", "no A:A", "no B:B", "no C:C");
+        KindSayings y = Made.told("some A:A", "some B:B", "some C:C", "no A:A", "no B:B", "no C:C");
         due("least of the pairs as a number", y.clash(63, 1), 9);
         due("and without the first", y.clash(62, 1), 18);
         for (int no : NO_SETS) {
@@ -450,7 +427,7 @@ public final class PromisesTest {
         x.kinds(1);
         x.most(2);
         // Of six worlds the sayings hold in 3, 2, 3, 1; the rest always.
-        tell(x, "least 2 A|!A:A|!A", "just 1 A:A", "some A:A", "least 2 A:A");
+        Made.tell(x, "least 2 A|!A:A|!A", "just 1 A:A", "some A:A", "least 2 A:A");
         due("the first of the best", x.ask(0), 0);
         due("told: the others part more", x.ask(1), 1);
         due("of the worlds with some", x.ask(4), 0);
@@ -468,7 +445,7 @@ public final class PromisesTest {
         due("nothing parts them", x.heaps(0), 1);
         x.kinds(1);
         x.most(2);
-        tell(x, "some A:A", "least 2 A:A", "even A:!A");
+        Made.tell(x, "some A:A", "least 2 A:A", "even A:!A");
         // (0,0) e; (1,0) -; (0,1) s; (2,0) -; (1,1) s e; (0,2) s l.
         due("heaps(0)", x.heaps(0), 5);
         due("heaps(1)", x.heaps(1), 3);
@@ -500,7 +477,7 @@ public final class PromisesTest {
     }
 
     private static void twin() {
-        KindSayings x = told("some A:B", "no A:B", "not no B:A", "least 1 A&B:A|C", "all A:B", "even A:A&B", "least 5 A:A",
+        KindSayings x = Made.told("some A:B", "no A:B", "not no B:A", "least 1 A&B:A|C", "all A:B", "even A:A&B", "least 5 A:A",
             "not all C:C", "most A:B", "even A:A");
         int[] due = {2, NONE, 0, 0, 5, 4, 7, 6, NONE, NONE};
         for (int i = 0; i < 10; i++) {
@@ -535,7 +512,7 @@ public final class PromisesTest {
         int[][] shown = {{0, 0, 2}, {2, 0, 2}, {1, 0, 2}, {3, 0, 2}, {2, 1, 0}, {1, 1, 0}, {3, 0, 1}, {0, 1, 1}, {1, 0, 1}};
         int[][] facts = {{1, 6}, {1, 38}, {17, 6}, {17, 38}, {33, NONE}, {17, NONE}, {50, 6}, {NONE, NONE}, {1, NONE}};
         for (int mood = 0; mood < 9; mood++) {
-            KindSayings x = told(told[mood]);
+            KindSayings x = Made.told(told[mood]);
             int set = (1 << told[mood].length) - 1;
             int[] f = shown[mood];
             String name = "mood " + mood + ": ";
@@ -553,7 +530,7 @@ public final class PromisesTest {
     private static void round() {
         KindSayings x = new KindSayings();
         x.kinds(4);
-        tell(x, "all A:B", "all B:C", "all C:D", "some A:A", "even A:B");
+        Made.tell(x, "all A:B", "all B:C", "all C:D", "some A:A", "even A:B");
         due("told", x.round(7, 0, 0, 1), 0);
         due("same", x.round(0, 0, 3, 3), 0);
         due("after one", x.round(7, 0, 0, 2), 1);
@@ -576,7 +553,7 @@ public final class PromisesTest {
     }
 
     private static void by() {
-        KindSayings x = told("some A:B", "some B:A", "all B:C", "all A:C", "all A:A");
+        KindSayings x = Made.told("some A:B", "some B:A", "all B:C", "all A:C", "all A:A");
         due("told: no mood", x.by(1, 1, 0, 1, 0), NONE);
         due("told: no first", x.by(1, 1, 0, 1, 1), NONE);
         due("told: no second", x.by(1, 1, 0, 1, 2), NONE);
@@ -592,7 +569,7 @@ public final class PromisesTest {
         due("mood 5 takes one", x.by(1, 1, 1, 0, 2), NONE);
         KindSayings y = new KindSayings();
         y.kinds(4);
-        tell(y, "all A:B", "all A:C", "all B:D", "all C:D", "all D:B");
+        Made.tell(y, "all A:B", "all A:C", "all B:D", "all C:D", "all D:B");
         due("least of two ways", y.by(15, 0, 0, 3, 1), 1);
         due("and its second", y.by(15, 0, 0, 3, 2), 7);
         due("a fact of the round ahead", y.by(2 + 8 + 16, 0, 0, 1, 1), 2);
@@ -614,7 +591,7 @@ public final class PromisesTest {
     }
 
     private static void shown() {
-        KindSayings x = told("all A:B", "all B:C", "some A:A", "no C:A", "not all A:B", "even A:B");
+        KindSayings x = Made.told("all A:B", "all B:C", "some A:A", "no C:A", "not all A:B", "even A:B");
         due("same alone", x.shown(0, 0), 3);
         due("no round", x.shown(0, 1), 0);
         due("a chain", x.shown(3, 0), 6);
@@ -641,7 +618,7 @@ public final class PromisesTest {
         KindSayings x = new KindSayings();
         x.kinds(1);
         // Of one kind: all, some, no, not all A A. "some" follows from "least 2", and moods tell nothing of it.
-        tell(x, "least 2 A:A", "no A:A", "not least 0 A:A", "least 5 A:A");
+        Made.tell(x, "least 2 A:A", "no A:A", "not least 0 A:A", "least 5 A:A");
         due("some follows, and does not come", x.shown(1, 3), 1);
         due("told: it comes", x.shown(2, 3), 0);
         due("what cannot be: some, no, not all", x.shown(4, 3), 3);
@@ -657,7 +634,7 @@ public final class PromisesTest {
     }
 
     private static void count() {
-        KindSayings x = full();
+        KindSayings x = Made.full();
         int[] due = {3, 3, 3, 6, 1023 - 2 - 8 - 16};
         for (int what = 0; what < 5; what++) {
             due("count(" + what + ")", x.count(what), due[what]);
@@ -669,7 +646,7 @@ public final class PromisesTest {
 
     /** What cannot be asked changes nothing, whatever else the call says. */
     private static void questionsChangeNothing() {
-        KindSayings x = full();
+        KindSayings x = Made.full();
         long before = seen(x);
         for (int set : new int[] {0, 31, 1023, -1, 1024}) {
             x.can(set);
